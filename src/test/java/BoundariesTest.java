@@ -119,6 +119,7 @@ public final class BoundariesTest {
         test("13: the working state's root and objects become the committed state", BoundariesTest::crashCommits);
         test("13: else the committed state stays", BoundariesTest::crashStays);
         test("13: Then the working state becomes the committed state", BoundariesTest::crashRestores);
+        test("13: Answers 1 if the commit was valid, else 0", BoundariesTest::crashAnswers);
         test("13: d the number of changed objects (none is changed)", BoundariesTest::crashWithNoneChanged);
         test("14: The number of objects that can be come to by links from the working root",
             BoundariesTest::reachableCounts);
@@ -1313,6 +1314,21 @@ public final class BoundariesTest {
         due("reachable()", valid.reachable(), 3);
         dueNoHandles(valid);
         due("what is free then", makesUntilFull(valid), 9);
+    }
+
+    private static void crashAnswers() {
+        PersistentGraph g = pair();
+        due("crash(0), none changed", g.crash(0), 0);
+        due("crash(1), none changed", g.crash(1), 1);
+        g.getRoot(0);
+        g.setValue(0, 11);
+        due("crash(1), one changed", g.crash(1), 0);
+        due("crash(2), none changed then", g.crash(2), 1);
+        g.getRoot(0);
+        g.setValue(0, 11);
+        due("crash(2), one changed", g.crash(2), 1);
+        due("crash(0), none changed then", g.crash(0), 0);
+        due("crash(13), twelve changed", rooted(12).crash(13), 1);
     }
 
     private static void crashWithNoneChanged() {

@@ -1,7 +1,6 @@
-/** Each promise of the document with ordinary inputs, the edges it names and wrong inputs. */
+/** Each promise of the document with ordinary inputs and wrong ones; BoundariesTest has the edges. */
 public final class PromisesTest {
     private static final int BAD = -1;
-    private static final int FULL = -2;
     private static final int NONE = -3;
     private static final int[] NO_HANDLES = {-1, 4, Integer.MIN_VALUE, Integer.MAX_VALUE};
     private static final int[] NO_LINKS = {-1, 2, Integer.MIN_VALUE, Integer.MAX_VALUE};
@@ -10,8 +9,6 @@ public final class PromisesTest {
     public static void main(String[] args) {
         newObject();
         make();
-        makeFull();
-        makeCountsObjectsInUse();
         makeReusesLostObjects();
         getRoot();
         setRoot();
@@ -26,10 +23,7 @@ public final class PromisesTest {
         commitLeavesWorkingState();
         abort();
         crash();
-        crashCountsSteps();
-        crashWithOnlyTheRootChanged();
         reachable();
-        wrongInputsChangeNothing();
         System.out.println(wrong == 0 ? "all promises hold" : wrong + " answers are not as due");
         if (wrong != 0) {
             System.exit(1);
@@ -125,53 +119,6 @@ public final class PromisesTest {
         twice.getRoot(1);
         due("make: a second object", twice.same(0, 1), false);
         due("make: the first keeps its value", twice.value(1), 1);
-    }
-
-    private static void makeFull() {
-        PersistentGraph g = chain(12);
-        due("make: 12 objects stand", g.reachable(), 12);
-        due("make: full", g.make(1, 13), FULL);
-        due("make: full leaves h", g.drop(1), 0);
-        for (int h : NO_HANDLES) {
-            due("make: BAD goes before FULL", g.make(h, 13), BAD);
-        }
-        PersistentGraph held = chain(11);
-        due("make: the twelfth", held.make(1, 12), 1);
-        due("make: what h leads to counts as before", held.make(1, 13), FULL);
-        due("make: full keeps the value", held.value(1), 12);
-        held.drop(1);
-        due("make: after drop", held.make(1, 13), 1);
-        due("make: the new value", held.value(1), 13);
-    }
-
-    private static void makeCountsObjectsInUse() {
-        PersistentGraph g = chain(12);
-        g.commit();
-        g.drop(0);
-        g.setRoot(0);
-        due("make: nothing reachable", g.reachable(), 0);
-        due("make: committed objects are in use", g.make(0, 1), FULL);
-        g.commit();
-        due("make: free after the commit", g.make(0, 1), 0);
-
-        PersistentGraph byHandle = chain(12);
-        byHandle.getRoot(0);
-        byHandle.drop(1);
-        byHandle.setRoot(1);
-        due("make: come to from a handle by links", byHandle.make(1, 1), FULL);
-        byHandle.drop(0);
-        due("make: free after the drop", byHandle.make(1, 1), 1);
-
-        PersistentGraph uncommitted = chain(12);
-        due("make: before the abort", uncommitted.make(1, 1), FULL);
-        uncommitted.abort();
-        due("make: free after the abort", uncommitted.make(1, 1), 1);
-
-        PersistentGraph ring = new PersistentGraph();
-        for (int n = 0; n < 40; n++) {
-            due("make: an object that leads to itself is collected", ring.make(0, n), 0);
-            ring.link(0, 0, 0);
-        }
     }
 
     private static void makeReusesLostObjects() {
@@ -478,47 +425,6 @@ public final class PromisesTest {
         due("crash: a new object", valid.value(1), 30);
     }
 
-    private static void crashCountsSteps() {
-        for (int changed = 0; changed <= 12; changed++) {
-            for (int writes = -2; writes <= 15; writes++) {
-                PersistentGraph g = changed == 0 ? new PersistentGraph() : chain(changed);
-                int want = writes > changed ? 1 : 0;
-                String what = "crash(" + writes + ") with " + changed + " changed";
-                due(what, g.crash(writes), want);
-                due(what + ": objects", g.reachable(), want * changed);
-            }
-        }
-        due("crash: least writes", new PersistentGraph().crash(Integer.MIN_VALUE), 0);
-        due("crash: most writes", chain(12).crash(Integer.MAX_VALUE), 1);
-
-        PersistentGraph back = committedPair();
-        back.setValue(0, 1);
-        back.setValue(0, 10);
-        due("crash: a value set back is no step", back.crash(1), 1);
-        PersistentGraph aside = committedPair();
-        aside.make(2, 1);
-        due("crash: an object of a handle is no step", aside.crash(1), 1);
-        due("crash: and is gone", aside.abort(), 2);
-    }
-
-    private static void crashWithOnlyTheRootChanged() {
-        PersistentGraph g = committedPair();
-        g.setRoot(1);
-        due("crash: no mark for the root's move", g.crash(0), 0);
-        duePair("crash, no mark for the root's move", g);
-        g.getRoot(0);
-        g.follow(1, 0, 0);
-        g.setRoot(1);
-        due("crash: the mark for the root's move", g.crash(1), 1);
-        due("crash: one object left", g.reachable(), 1);
-        g.getRoot(0);
-        due("crash: the root has moved", g.value(0), 20);
-        g.drop(0);
-        g.setRoot(0);
-        due("crash: the root to nothing", g.crash(1), 1);
-        due("crash: nothing left", g.abort(), 0);
-    }
-
     private static void reachable() {
         for (int length = 1; length <= 12; length++) {
             due("reachable: a chain", chain(length).reachable(), length);
@@ -552,28 +458,5 @@ public final class PromisesTest {
             backwards.setRoot(0);
             due("reachable: a chain built from its end", backwards.reachable(), n + 1);
         }
-    }
-
-    private static void wrongInputsChangeNothing() {
-        PersistentGraph g = committedPair();
-        for (int bad : NO_HANDLES) {
-            g.make(bad, 9);
-            g.getRoot(bad);
-            g.setRoot(bad);
-            g.follow(bad, 0, 0);
-            g.follow(0, bad, 0);
-            g.follow(0, 1, bad == 4 ? 2 : bad);
-            g.link(bad, 0, 0);
-            g.link(0, 0, bad);
-            g.link(0, bad == 4 ? 2 : bad, 0);
-            g.drop(bad);
-            g.setValue(bad, 9);
-        }
-        due("wrong inputs: handle 0", g.value(0), 10);
-        due("wrong inputs: handle 1", g.value(1), 20);
-        due("wrong inputs: handle 2", g.drop(2), 0);
-        due("wrong inputs: handle 3", g.drop(3), 0);
-        due("wrong inputs: nothing changed", g.commit(), 0);
-        duePair("wrong inputs", g);
     }
 }
